@@ -105,25 +105,11 @@ public final class HoleBank {
     }
 
     public int fill(int day, int hole) {
-        if (!isBelow(day, DAYS) || !isBelow(hole, HOLES)) {
-            return BAD;
-        }
-        if (book.fillings.isFull()) {
-            return FULL;
-        }
-        stale = true;
-        return book.fillings.add(day, hole, 0, 0);
+        return tell(book.fillings, day, hole);
     }
 
     public int patch(int day, int hole) {
-        if (!isBelow(day, DAYS) || !isBelow(hole, HOLES)) {
-            return BAD;
-        }
-        if (book.patches.isFull()) {
-            return FULL;
-        }
-        stale = true;
-        return book.patches.add(day, hole, 0, 0);
+        return tell(book.patches, day, hole);
     }
 
     public int back(int what) {
@@ -187,7 +173,7 @@ public final class HoleBank {
             return BAD;
         }
         Course course = toldCourse();
-        return what == 0 ? course.vaultBehind(day) : course.filledBehind(day);
+        return what == 0 ? course.vaultBehind(day) : course.filled[day];
     }
 
     public int came(int loan, int what) {
@@ -572,6 +558,17 @@ public final class HoleBank {
 
     private static boolean mayBeLoan(int day, int hole, int person, int days) {
         return isBelow(day, DAYS) && isBelow(hole, HOLES) && isBelow(person, PERSONS) && days >= LEAST && days <= MOST;
+    }
+
+    private int tell(Rows rows, int day, int hole) {
+        if (!isBelow(day, DAYS) || !isBelow(hole, HOLES)) {
+            return BAD;
+        }
+        if (rows.isFull()) {
+            return FULL;
+        }
+        stale = true;
+        return rows.add(day, hole, 0, 0);
     }
 
     private Text textOf(int text) {
@@ -1002,10 +999,6 @@ public final class HoleBank {
             return loan[day * HOLES + hole];
         }
 
-        private int filledBehind(int day) {
-            return filled[day];
-        }
-
         private boolean couldBePatched(int day, int hole) {
             return (patchable[day] >> hole & 1) == 1;
         }
@@ -1062,7 +1055,7 @@ public final class HoleBank {
             for (int w = 0; w < works; w++) {
                 useful |= fits[w];
             }
-            // only sets of holes that fit some work can be used: from the fullest down to the empty one
+            // only holes that fit some work are ever used: their sets, from the fullest down, each a lesser number
             for (int used = useful; used > 0; used = (used - 1) & useful) {
                 most[works * SETS + used] = 0;
             }
