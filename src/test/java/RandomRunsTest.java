@@ -2,7 +2,8 @@ import java.util.Random;
 
 /** Random runs of calls, the same in each go, on a HoleBank and a PlainBank side by side. */
 public final class RandomRunsTest {
-    private static final int RUNS = 700, CALLS = 330;
+    /** A step makes less than 60 calls, so that no object is asked more often than 512 times. */
+    private static final int RUNS = 1600, CALLS = 450;
     private static final int[] EXTREMES = {
         Integer.MIN_VALUE, Integer.MIN_VALUE + 1, -1000, -2, -1, 0, 1, 2, 3, 4, 5, 6, 7, 8, 9, 10, 11, 12, 13, 15, 16,
         17, 39, 40, 41, 59, 60, 61, 127, 128, 255, 256, 32767, 32768, 65536, Integer.MAX_VALUE - 1, Integer.MAX_VALUE
@@ -15,6 +16,7 @@ public final class RandomRunsTest {
     private final int run;
     /** Of a run: how many days are much used, so that things meet. */
     private final int days;
+    private int asked = 0;
 
     private RandomRunsTest(int run, Due due) {
         this.run = run;
@@ -34,13 +36,14 @@ public final class RandomRunsTest {
     private void go() {
         typeItems(0, random.nextInt(9));
         typeItems(1, random.nextInt(9));
-        for (int k = 0; k < CALLS && due.wrongs() == 0; k++) {
+        while (asked < CALLS && due.wrongs() == 0) {
             step(random.nextInt(100));
         }
         check("digest()", bank.digest(), plain.digest());
     }
 
     private void check(String call, long got, long want) {
+        asked++;
         due.is("run " + run + ": " + call, got, want);
     }
 
