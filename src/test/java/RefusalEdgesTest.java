@@ -3,8 +3,8 @@ import java.util.List;
 import java.util.function.Supplier;
 
 /**
- * What the document says of refusals: each call with each number that is not as told, on an empty, a half-filled and a
- * full bank; the order of refusals; and that they change nothing.
+ * What the document says of refusals: each call, each of its numbers in turn just beyond its edges and far beyond them, on
+ * an empty, a half-filled and a full bank; the order of refusals; and that they change nothing.
  */
 public final class RefusalEdgesTest {
     private static final int BAD = HoleBank.BAD, NOT = HoleBank.NOT, FULL = HoleBank.FULL, NONE = HoleBank.NONE;
